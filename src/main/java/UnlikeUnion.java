@@ -21,7 +21,7 @@ public final class UnlikeUnion {
 
     // ---- jobs
 
-    public int addJob(int first, int second, int third) {
+    public int addJob(int first, int second, int third) throws IllegalArgumentException, IllegalStateException {
         if (!isTime(first) || !isTime(second) || !isTime(third)) {
             throw new IllegalArgumentException("a time is not 0 to 50");
         }
@@ -41,7 +41,8 @@ public final class UnlikeUnion {
         return job;
     }
 
-    public int setTime(int job, int machine, int time) {
+    public int setTime(int job, int machine, int time)
+            throws IndexOutOfBoundsException, IllegalArgumentException, IllegalStateException {
         requireJob(job);
         requireMachine(machine);
         if (!isTime(time)) {
@@ -69,7 +70,7 @@ public final class UnlikeUnion {
         return list.count;
     }
 
-    public int time(int job, int machine) {
+    public int time(int job, int machine) throws IndexOutOfBoundsException {
         requireJob(job);
         requireMachine(machine);
         return list.timeOn(job, machine);
@@ -86,7 +87,7 @@ public final class UnlikeUnion {
         return search.tryAll(list);
     }
 
-    public int shortestMachine(int job) {
+    public int shortestMachine(int job) throws IndexOutOfBoundsException {
         requireJob(job);
         refreshSearch();
         return search.best[job];
@@ -99,21 +100,21 @@ public final class UnlikeUnion {
         return division.bound;
     }
 
-    public int numerator(int job, int machine) {
+    public int numerator(int job, int machine) throws IndexOutOfBoundsException {
         requireJob(job);
         requireMachine(machine);
         refreshDivision();
         return division.numerators[job * MACHINES + machine];
     }
 
-    public int denominator(int job, int machine) {
+    public int denominator(int job, int machine) throws IndexOutOfBoundsException {
         requireJob(job);
         requireMachine(machine);
         refreshDivision();
         return division.denominators[job * MACHINES + machine];
     }
 
-    public boolean isDivided(int job) {
+    public boolean isDivided(int job) throws IndexOutOfBoundsException {
         requireJob(job);
         refreshDivision();
         return division.wholeMachine(job) == NONE;
@@ -131,7 +132,7 @@ public final class UnlikeUnion {
 
     // ---- the rounded plan
 
-    public int roundedMachine(int job) {
+    public int roundedMachine(int job) throws IndexOutOfBoundsException {
         requireJob(job);
         refreshDivision();
         return rounding.machineOf[job];
@@ -153,7 +154,7 @@ public final class UnlikeUnion {
 
     // ---- the own plan
 
-    public int assign(int job, int machine) {
+    public int assign(int job, int machine) throws IndexOutOfBoundsException, IllegalStateException {
         requireJob(job);
         requireMachine(machine);
         if (list.timeOn(job, machine) == 0) {
@@ -164,12 +165,12 @@ public final class UnlikeUnion {
         return before;
     }
 
-    public int machine(int job) {
+    public int machine(int job) throws IndexOutOfBoundsException {
         requireJob(job);
         return own.machineOf[job];
     }
 
-    public int load(int machine) {
+    public int load(int machine) throws IndexOutOfBoundsException {
         requireMachine(machine);
         return list.loadOn(own.machineOf, machine);
     }

@@ -5,15 +5,34 @@ import java.lang.reflect.Modifier;
 import java.util.Arrays;
 import java.util.Set;
 import java.util.TreeSet;
+import java.util.stream.Collectors;
 
 /** The public face of the document, and nothing beside it that is not private. */
 final class FaceTest {
-    private static final Set<String> FACE = new TreeSet<>(Arrays.asList("int addJob(int, int, int)",
-        "int setTime(int, int, int)", "int removeLast()", "int jobs()", "int time(int, int)", "int shortest()",
-        "int shortestByTrying()", "int shortestMachine(int)", "int bound()", "int numerator(int, int)",
-        "int denominator(int, int)", "boolean isDivided(int)", "int leastNumerator()", "int leastDenominator()",
-        "int roundedMachine(int)", "int roundedLength()", "float excess()", "int assign(int, int)",
-        "int machine(int)", "int load(int)", "int length()", "int improve()", "int takeRounded()"));
+    private static final Set<String> FACE = new TreeSet<>(Arrays.asList(
+        "int addJob(int, int, int) throws IllegalArgumentException, IllegalStateException",
+        "int setTime(int, int, int) throws IndexOutOfBoundsException, IllegalArgumentException, IllegalStateException",
+        "int removeLast()",
+        "int jobs()",
+        "int time(int, int) throws IndexOutOfBoundsException",
+        "int shortest()",
+        "int shortestByTrying()",
+        "int shortestMachine(int) throws IndexOutOfBoundsException",
+        "int bound()",
+        "int numerator(int, int) throws IndexOutOfBoundsException",
+        "int denominator(int, int) throws IndexOutOfBoundsException",
+        "boolean isDivided(int) throws IndexOutOfBoundsException",
+        "int leastNumerator()",
+        "int leastDenominator()",
+        "int roundedMachine(int) throws IndexOutOfBoundsException",
+        "int roundedLength()",
+        "float excess()",
+        "int assign(int, int) throws IndexOutOfBoundsException, IllegalStateException",
+        "int machine(int) throws IndexOutOfBoundsException",
+        "int load(int) throws IndexOutOfBoundsException",
+        "int length()",
+        "int improve()",
+        "int takeRounded()"));
 
     public static void main(String[] args) {
         Due due = new Due("FaceTest");
@@ -47,8 +66,13 @@ final class FaceTest {
     }
 
     private static String written(Method method) {
-        String parameters = Arrays.toString(method.getParameterTypes());
-        return method.getReturnType() + " " + method.getName() + "(" + parameters.substring(1, parameters.length() - 1) + ")";
+        String thrown = namesOf(method.getExceptionTypes());
+        return method.getReturnType() + " " + method.getName() + "(" + namesOf(method.getParameterTypes()) + ")"
+            + (thrown.isEmpty() ? "" : " throws " + thrown);
+    }
+
+    private static String namesOf(Class<?>[] types) {
+        return Arrays.stream(types).map(Class::getSimpleName).collect(Collectors.joining(", "));
     }
 
     private static void lookAtHidden(Due due, Class<?> where, Set<String> names) {
