@@ -22,7 +22,6 @@ final class DivisionTest {
         division("great denominators", 17, "2867/184", "0 0 1, 133/222 0 89/222, 0 0 1, 0 91/148 57/148, "
             + "625/1332 707/1332 0, 0 1 0, 1 0 0", 20, 20, 4, 17, 22, 9, 21, 13, 4, 18, 15, 14, 6, 9, 18, 7, 3, 9, 4, 13, 21);
         changes();
-        wrong();
         DUE.close();
     }
 
@@ -30,52 +29,25 @@ final class DivisionTest {
         UnlikeUnion x = Due.withJobs(times);
         DUE.same("promise 15: " + name, x.leastDenominator(), Integer.valueOf(least.split("/")[1]));
         DUE.same("promise 14: " + name, x.leastNumerator(), Integer.valueOf(least.split("/")[0]));
-        DUE.same("promises 11 and 12: " + name, sharesOf(x), shares);
+        DUE.same("promises 11 and 12: " + name, Due.sharesOf(x), shares);
         DUE.same("promise 10: " + name, x.bound(), bound);
         for (int job = 0; job < x.jobs(); job++) {
             DUE.same("promise 13: " + name + ", job " + job, x.isDivided(job), shares.split(", ")[job].contains("/"));
         }
     }
 
-    /** A share 0 or 1 as it is, others as fractions; another form of these two is shown, to be found wrong. */
-    private static String sharesOf(UnlikeUnion x) {
-        StringBuilder text = new StringBuilder();
-        for (int job = 0; job < x.jobs(); job++) {
-            text.append(job > 0 ? ", " : "");
-            for (int machine = 0; machine < 3; machine++) {
-                int over = x.numerator(job, machine);
-                int under = x.denominator(job, machine);
-                text.append(machine > 0 ? " " : "").append(over).append(under == 1 ? "" : "/" + under);
-            }
-        }
-        return text.toString();
-    }
-
     private static void changes() {
         UnlikeUnion x = Due.withJobs(6, 6, 6, 6, 6, 6);
-        DUE.same("promise 11: two", sharesOf(x), "1 0 0, 0 1 0");
+        DUE.same("promise 11: two", Due.sharesOf(x), "1 0 0, 0 1 0");
         x.setTime(0, 0, 7);
-        DUE.same("promise 11: above the bound", sharesOf(x), "0 1 0, 1 0 0");
+        DUE.same("promise 11: above the bound", Due.sharesOf(x), "0 1 0, 1 0 0");
         x.addJob(6, 0, 6);
-        DUE.same("promise 11: a third", sharesOf(x), "0 1 0, 1 0 0, 0 0 1");
+        DUE.same("promise 11: a third", Due.sharesOf(x), "0 1 0, 1 0 0, 0 0 1");
         x.removeLast();
         x.removeLast();
-        DUE.same("promise 11: one", sharesOf(x), "0 1 0");
+        DUE.same("promise 11: one", Due.sharesOf(x), "0 1 0");
         DUE.same("promise 10: one", x.bound(), 6);
         x.assign(0, 2);
-        DUE.same("promise 11: an own plan changes nothing", sharesOf(x), "0 1 0");
-    }
-
-    private static void wrong() {
-        UnlikeUnion x = Due.withJobs(5, 5, 5, 6, 6, 6);
-        int[][] places = {{-1, 0}, {2, 0}, {7, 1}, {0, -1}, {1, 3}, {Integer.MAX_VALUE, 0}, {0, Integer.MIN_VALUE}};
-        for (int[] place : places) {
-            String at = "(" + place[0] + ", " + place[1] + ")";
-            DUE.thrown("promise 11: numerator" + at, IndexOutOfBoundsException.class, () -> x.numerator(place[0], place[1]));
-            DUE.thrown("promise 12: denominator" + at, IndexOutOfBoundsException.class, () -> x.denominator(place[0], place[1]));
-        }
-        for (int job : new int[] {-1, 2, 7, Integer.MIN_VALUE, Integer.MAX_VALUE}) {
-            DUE.thrown("promise 13: isDivided(" + job + ")", IndexOutOfBoundsException.class, () -> x.isDivided(job));
-        }
+        DUE.same("promise 11: an own plan changes nothing", Due.sharesOf(x), "0 1 0");
     }
 }

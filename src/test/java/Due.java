@@ -1,3 +1,5 @@
+import java.util.function.IntUnaryOperator;
+
 /** Counts the answers that are not due; a test ends with close(), which exits with 1 if there was one. */
 final class Due {
     interface Call {
@@ -47,6 +49,54 @@ final class Due {
             x.addJob(times[at], times[at + 1], times[at + 2]);
         }
         return x;
+    }
+
+    /** An own plan of one's choice, told by its machines, one digit for each job. */
+    static UnlikeUnion withPlan(String plan, int... times) {
+        UnlikeUnion x = withJobs(times);
+        for (int job = 0; job < plan.length(); job++) {
+            x.assign(job, plan.charAt(job) - '0');
+        }
+        return x;
+    }
+
+    static String planOf(UnlikeUnion x) {
+        return digits(x, x::machine);
+    }
+
+    static String shortestPlanOf(UnlikeUnion x) {
+        return digits(x, x::shortestMachine);
+    }
+
+    static String roundedPlanOf(UnlikeUnion x) {
+        return digits(x, x::roundedMachine);
+    }
+
+    private static String digits(UnlikeUnion x, IntUnaryOperator machineOf) {
+        StringBuilder text = new StringBuilder();
+        for (int job = 0; job < x.jobs(); job++) {
+            text.append(machineOf.applyAsInt(job));
+        }
+        return text.toString();
+    }
+
+    /** A share of the denominator 1 as its numerator alone, others as fractions. */
+    static String sharesOf(UnlikeUnion x) {
+        StringBuilder text = new StringBuilder();
+        for (int job = 0; job < x.jobs(); job++) {
+            text.append(job > 0 ? ", " : "");
+            for (int machine = 0; machine < 3; machine++) {
+                int over = x.numerator(job, machine);
+                int under = x.denominator(job, machine);
+                text.append(machine > 0 ? " " : "").append(over).append(under == 1 ? "" : "/" + under);
+            }
+        }
+        return text.toString();
+    }
+
+    /** How many calls stateOf makes; an object is asked 512 at the most. */
+    static int callsOfState(int jobs) {
+        return 13 + 14 * jobs;
     }
 
     /** Everything that an object answers without being changed by it. */

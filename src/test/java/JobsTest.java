@@ -5,9 +5,7 @@ final class JobsTest {
     public static void main(String[] args) {
         newObject();
         addJob();
-        addJobWrong();
         setTime();
-        setTimeWrong();
         removeLast();
         time();
         DUE.close();
@@ -36,26 +34,6 @@ final class JobsTest {
         }
     }
 
-    private static void addJobWrong() {
-        UnlikeUnion x = new UnlikeUnion();
-        int[][] wrong = {{0, 0, 0}, {51, 1, 1}, {1, 51, 1}, {1, 1, 51}, {-1, 1, 1}, {1, -1, 1}, {1, 1, -1},
-            {Integer.MIN_VALUE, 1, 1}, {1, Integer.MAX_VALUE, 1}, {-1, 0, 1}, {0, 51, 0}};
-        for (int jobs = 0; jobs <= 7; jobs++) {
-            String before = Due.stateOf(x);
-            for (int[] t : wrong) {
-                DUE.thrown("promise 2: addJob(" + t[0] + ", " + t[1] + ", " + t[2] + ") with " + jobs + " jobs",
-                    IllegalArgumentException.class, () -> x.addJob(t[0], t[1], t[2]));
-            }
-            if (jobs == 7) {
-                DUE.thrown("promise 2: an eighth", IllegalStateException.class, () -> x.addJob(1, 1, 1));
-            }
-            DUE.same("promise 2: nothing changed", Due.stateOf(x), before);
-            if (jobs < 7) {
-                x.addJob(jobs, 5, 9);
-            }
-        }
-    }
-
     private static void setTime() {
         UnlikeUnion x = new UnlikeUnion();
         x.addJob(5, 6, 0);
@@ -70,28 +48,6 @@ final class JobsTest {
         DUE.same("promise 3: nor the bound", x.bound(), 9);
         DUE.same("promise 3: nor the least number", x.leastNumerator(), 10);
         DUE.same("promise 3: another job", x.time(1, 1), 9);
-    }
-
-    private static void setTimeWrong() {
-        UnlikeUnion x = new UnlikeUnion();
-        x.addJob(5, 6, 7);
-        x.addJob(0, 6, 7);
-        String before = Due.stateOf(x);
-        int[][] places = {{-1, 0}, {2, 0}, {7, 0}, {0, -1}, {0, 3}, {Integer.MIN_VALUE, 0}, {0, Integer.MAX_VALUE}, {9, 9}};
-        for (int[] place : places) {
-            for (int time : new int[] {0, 1, 51, -1}) {
-                DUE.thrown("promise 3: setTime(" + place[0] + ", " + place[1] + ", " + time + ")",
-                    IndexOutOfBoundsException.class, () -> x.setTime(place[0], place[1], time));
-            }
-        }
-        for (int time : new int[] {51, -1, Integer.MIN_VALUE, Integer.MAX_VALUE}) {
-            DUE.thrown("promise 3: time " + time, IllegalArgumentException.class, () -> x.setTime(0, 0, time));
-        }
-        DUE.thrown("promise 3: 0 on its machine", IllegalStateException.class, () -> x.setTime(0, 0, 0));
-        DUE.thrown("promise 3: 0 on its machine 1", IllegalStateException.class, () -> x.setTime(1, 1, 0));
-        DUE.same("promise 3: nothing changed", Due.stateOf(x), before);
-        x.assign(0, 2);
-        DUE.same("promise 3: 0 on a machine it has left", x.setTime(0, 0, 0), 5);
     }
 
     private static void removeLast() {
@@ -125,10 +81,5 @@ final class JobsTest {
         DUE.same("promise 6: 1 2", x.time(1, 2), 6);
         x.setTime(1, 2, 8);
         DUE.same("promise 6: behind setTime", x.time(1, 2), 8);
-        int[][] places = {{-1, 0}, {2, 0}, {0, -1}, {0, 3}, {2, 3}, {Integer.MAX_VALUE, 1}, {1, Integer.MIN_VALUE}};
-        for (int[] place : places) {
-            DUE.thrown("promise 6: time(" + place[0] + ", " + place[1] + ")", IndexOutOfBoundsException.class,
-                () -> x.time(place[0], place[1]));
-        }
     }
 }

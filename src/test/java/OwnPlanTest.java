@@ -4,9 +4,7 @@ final class OwnPlanTest {
 
     public static void main(String[] args) {
         assign();
-        assignWrong();
         loads();
-        wrongPlaces();
         noChange("no jobs", "");
         noChange("one machine alone", "0", 5, 0, 0);
         noChange("changes that are as good", "01", 5, 5, 5, 5, 5, 5);
@@ -28,48 +26,19 @@ final class OwnPlanTest {
         DUE.close();
     }
 
-    private static UnlikeUnion withPlan(String plan, int... times) {
-        UnlikeUnion x = Due.withJobs(times);
-        for (int job = 0; job < plan.length(); job++) {
-            x.assign(job, plan.charAt(job) - '0');
-        }
-        return x;
-    }
-
-    private static String planOf(UnlikeUnion x) {
-        StringBuilder text = new StringBuilder();
-        for (int job = 0; job < x.jobs(); job++) {
-            text.append(x.machine(job));
-        }
-        return text.toString();
-    }
-
     private static void assign() {
         UnlikeUnion x = Due.withJobs(0, 7, 3, 4, 0, 2);
-        DUE.same("promise 20: at first", planOf(x), "10");
+        DUE.same("promise 20: at first", Due.planOf(x), "10");
         DUE.same("promise 19: from 1 to 2", x.assign(0, 2), 1);
         DUE.same("promise 19: from 2 to 2", x.assign(0, 2), 2);
         DUE.same("promise 19: the other one", x.assign(1, 2), 0);
-        DUE.same("promise 20: then", planOf(x), "22");
+        DUE.same("promise 20: then", Due.planOf(x), "22");
         DUE.same("promise 19: back", x.assign(0, 1), 2);
-        DUE.same("promise 20: back", planOf(x), "12");
-    }
-
-    private static void assignWrong() {
-        UnlikeUnion x = Due.withJobs(0, 7, 3, 4, 0, 2);
-        String before = Due.stateOf(x);
-        DUE.thrown("promise 19: where it cannot be done", IllegalStateException.class, () -> x.assign(0, 0));
-        DUE.thrown("promise 19: nor the other one", IllegalStateException.class, () -> x.assign(1, 1));
-        int[][] places = {{-1, 0}, {2, 0}, {7, 1}, {0, -1}, {0, 3}, {2, 3}, {Integer.MAX_VALUE, 0}, {0, Integer.MIN_VALUE}};
-        for (int[] place : places) {
-            DUE.thrown("promise 19: assign(" + place[0] + ", " + place[1] + ")", IndexOutOfBoundsException.class,
-                () -> x.assign(place[0], place[1]));
-        }
-        DUE.same("promise 19: nothing changed", Due.stateOf(x), before);
+        DUE.same("promise 20: back", Due.planOf(x), "12");
     }
 
     private static void loads() {
-        UnlikeUnion x = withPlan("0212", 5, 6, 7, 1, 2, 3, 9, 8, 7, 50, 50, 50);
+        UnlikeUnion x = Due.withPlan("0212", 5, 6, 7, 1, 2, 3, 9, 8, 7, 50, 50, 50);
         DUE.same("promise 21: the machine 0", x.load(0), 5);
         DUE.same("promise 21: the machine 1", x.load(1), 8);
         DUE.same("promise 21: the machine 2", x.load(2), 53);
@@ -84,30 +53,20 @@ final class OwnPlanTest {
         DUE.same("promise 22: behind assign", x.length(), 8);
     }
 
-    private static void wrongPlaces() {
-        UnlikeUnion x = Due.withJobs(5, 5, 5);
-        for (int job : new int[] {-1, 1, 7, Integer.MIN_VALUE, Integer.MAX_VALUE}) {
-            DUE.thrown("promise 20: machine(" + job + ")", IndexOutOfBoundsException.class, () -> x.machine(job));
-        }
-        for (int machine : new int[] {-1, 3, Integer.MIN_VALUE, Integer.MAX_VALUE}) {
-            DUE.thrown("promise 21: load(" + machine + ")", IndexOutOfBoundsException.class, () -> x.load(machine));
-        }
-    }
-
     private static void noChange(String name, String plan, int... times) {
         improve(name, plan, UnlikeUnion.NONE, plan, times);
     }
 
     private static void improve(String name, String before, int answer, String then, int... times) {
-        UnlikeUnion x = withPlan(before, times);
+        UnlikeUnion x = Due.withPlan(before, times);
         DUE.same("promise 23: " + name, x.improve(), answer);
-        DUE.same("promise 23: " + name + ", the plan", planOf(x), then);
+        DUE.same("promise 23: " + name + ", the plan", Due.planOf(x), then);
     }
 
     private static void improveToTheEnd() {
-        UnlikeUnion x = withPlan("220", 9, 9, 20, 2, 50, 50, 50, 2, 50);
+        UnlikeUnion x = Due.withPlan("220", 9, 9, 20, 2, 50, 50, 50, 2, 50);
         DUE.same("promise 23: first", x.improve(), 50);
-        DUE.same("promise 23: first, the plan", planOf(x), "120");
+        DUE.same("promise 23: first, the plan", Due.planOf(x), "120");
         DUE.same("promise 23: second", x.improve(), 50);
         DUE.same("promise 23: third", x.improve(), 11);
         DUE.same("promise 23: at the end", x.improve(), UnlikeUnion.NONE);
@@ -118,13 +77,13 @@ final class OwnPlanTest {
         DUE.same("promise 24: no jobs", new UnlikeUnion().takeRounded(), 0);
         UnlikeUnion x = Due.withJobs(6, 6, 6, 6, 6, 6, 6, 6, 6, 6, 6, 6);
         DUE.same("promise 24: two of four", x.takeRounded(), 2);
-        DUE.same("promise 24: the plan", planOf(x), "0012");
+        DUE.same("promise 24: the plan", Due.planOf(x), "0012");
         DUE.same("promise 24: again", x.takeRounded(), 0);
         DUE.same("promise 24: its length", x.length(), 12);
         x.setTime(0, 0, 50);
         x.assign(3, 1);
         DUE.same("promise 24: behind setTime", x.takeRounded(), 3);
-        DUE.same("promise 24: behind setTime, the plan", planOf(x), "1002");
+        DUE.same("promise 24: behind setTime, the plan", Due.planOf(x), "1002");
         x.removeLast();
         DUE.same("promise 24: behind removeLast", x.jobs(), 3);
     }

@@ -1,6 +1,6 @@
 import java.util.Random;
 
-/** Runs of calls, right and wrong ones, on an object and on the model; behind each call all that is asked is compared. */
+/** Runs of calls, right and wrong ones, on an object and on the model; behind many of them all that is shown is compared. */
 final class RandomRunsTest {
     private static final int[] GREATEST = {1, 2, 3, 6, 12, 50};
 
@@ -19,9 +19,15 @@ final class RandomRunsTest {
         UnlikeUnion x = new UnlikeUnion();
         Model model = new Model();
         int greatest = GREATEST[random.nextInt(GREATEST.length)];
-        for (int step = 0; step < 25; step++) {
+        int calls = 0;
+        while (calls + 1 + Due.callsOfState(7) <= 512) {
             String call = call(due, random, x, model, greatest);
-            due.same("run " + run + " step " + step + " behind " + call + "\n" + "the state", Due.stateOf(x), model.state());
+            calls++;
+            // Not behind each call, so that calls also meet results that have not been asked for.
+            if (random.nextInt(3) == 0) {
+                due.same("run " + run + " at " + calls + " behind " + call + "\n" + "the state", Due.stateOf(x), model.state());
+                calls += Due.callsOfState(model.count);
+            }
         }
     }
 

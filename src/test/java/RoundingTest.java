@@ -14,7 +14,6 @@ final class RoundingTest {
         rounding("no short decimal", 7, 1.1666666f, "122", 7, 5, 4, 0, 0, 3, 6, 2, 4);
         rounding("all on one machine", 350, 1.0f, "1111111", 0, 50, 0, 0, 50, 0, 0, 50, 0, 0, 50, 0, 0, 50, 0, 0, 50, 0, 0, 50, 0);
         changes();
-        wrong();
         DUE.close();
     }
 
@@ -22,35 +21,20 @@ final class RoundingTest {
         UnlikeUnion x = Due.withJobs(times);
         DUE.same("promise 18: " + name, x.excess(), excess);
         DUE.same("promise 17: " + name, x.roundedLength(), length);
-        DUE.same("promise 16: " + name, machinesOf(x), machines);
-    }
-
-    private static String machinesOf(UnlikeUnion x) {
-        StringBuilder text = new StringBuilder();
-        for (int job = 0; job < x.jobs(); job++) {
-            text.append(x.roundedMachine(job));
-        }
-        return text.toString();
+        DUE.same("promise 16: " + name, Due.roundedPlanOf(x), machines);
     }
 
     private static void changes() {
         UnlikeUnion x = Due.withJobs(6, 6, 6, 6, 6, 6);
-        DUE.same("promise 16: two", machinesOf(x), "01");
+        DUE.same("promise 16: two", Due.roundedPlanOf(x), "01");
         x.setTime(0, 0, 50);
-        DUE.same("promise 16: behind setTime", machinesOf(x), "10");
+        DUE.same("promise 16: behind setTime", Due.roundedPlanOf(x), "10");
         x.addJob(6, 0, 6);
-        DUE.same("promise 16: behind addJob", machinesOf(x), "102");
+        DUE.same("promise 16: behind addJob", Due.roundedPlanOf(x), "102");
         x.assign(0, 2);
-        DUE.same("promise 16: an own plan changes nothing", machinesOf(x), "102");
+        DUE.same("promise 16: an own plan changes nothing", Due.roundedPlanOf(x), "102");
         x.removeLast();
         x.removeLast();
         DUE.same("promise 17: behind removeLast", x.roundedLength(), 6);
-    }
-
-    private static void wrong() {
-        UnlikeUnion x = Due.withJobs(5, 5, 5);
-        for (int job : new int[] {-1, 1, 7, Integer.MIN_VALUE, Integer.MAX_VALUE}) {
-            DUE.thrown("promise 16: roundedMachine(" + job + ")", IndexOutOfBoundsException.class, () -> x.roundedMachine(job));
-        }
     }
 }

@@ -15,18 +15,13 @@ final class ShortestTest {
         plans("seven of 50", 150, "0001112", 50, 50, 50, 50, 50, 50, 50, 50, 50, 50, 50, 50, 50, 50, 50, 50, 50, 50, 50, 50, 50);
         plans("all on one machine", 350, "1111111", 0, 50, 0, 0, 50, 0, 0, 50, 0, 0, 50, 0, 0, 50, 0, 0, 50, 0, 0, 50, 0);
         changes();
-        wrong();
         DUE.close();
     }
 
     private static void plans(String name, int length, String machines, int... times) {
         UnlikeUnion x = Due.withJobs(times);
         DUE.same("promise 8: " + name, x.shortestByTrying(), length);
-        StringBuilder got = new StringBuilder();
-        for (int job = 0; job < x.jobs(); job++) {
-            got.append(x.shortestMachine(job));
-        }
-        DUE.same("promise 9: " + name, got.toString(), machines);
+        DUE.same("promise 9: " + name, Due.shortestPlanOf(x), machines);
         DUE.same("promise 7: " + name, x.shortest(), length);
         DUE.same("promise 8: " + name + " again", x.shortestByTrying(), length);
     }
@@ -44,13 +39,5 @@ final class ShortestTest {
         DUE.same("promise 8: behind setTime", x.shortestByTrying(), 5);
         x.removeLast();
         DUE.same("promise 9: behind removeLast", x.shortestMachine(0), 0);
-    }
-
-    private static void wrong() {
-        UnlikeUnion x = Due.withJobs(5, 5, 5);
-        for (int job : new int[] {-1, 1, 7, Integer.MIN_VALUE, Integer.MAX_VALUE}) {
-            DUE.thrown("promise 9: shortestMachine(" + job + ")", IndexOutOfBoundsException.class, () -> x.shortestMachine(job));
-        }
-        DUE.thrown("promise 9: without jobs", IndexOutOfBoundsException.class, () -> new UnlikeUnion().shortestMachine(0));
     }
 }
