@@ -186,6 +186,13 @@ final class BoundaryJobsTest {
         zeroRefused("the time 0 on its machine that has the time 50", 0, "", 50, 1, 1);
         CASES.test("promise 3: the time 0 on its machine, for the last of seven jobs",
             () -> CASES.refused(IllegalStateException.class, Cases::seven, x -> x.setTime(6, 0, 0)));
+        CASES.test("promise 3: the time 0 on its machine, where the job 0 has another one", () -> CASES.refused(
+            IllegalStateException.class, () -> Due.withPlan("02", 5, 6, 7, 5, 6, 7), x -> x.setTime(1, 2, 0)));
+        CASES.test("promise 3: the time 0 where the job 0 has its machine", () -> {
+            UnlikeUnion x = Due.withPlan("02", 5, 6, 7, 8, 6, 7);
+            CASES.same(x.setTime(1, 0, 0), 8);
+            CASES.same("the time", x.time(1, 0), 0);
+        });
         CASES.test("promise 3: the time 0 on another machine", () -> {
             UnlikeUnion x = Due.withPlan("2", 5, 6, 7);
             CASES.same("on 0", x.setTime(0, 0, 0), 5);

@@ -65,6 +65,11 @@ final class BoundaryOwnPlanTest {
             CASES.same(x.assign(6, 2), 0);
             CASES.same("the plan", Due.planOf(x), "0100012");
         });
+        CASES.test("promise 19: the last of seven jobs has another machine than the first one", () -> {
+            UnlikeUnion x = Due.withPlan("0000001", 1, 1, 1, 1, 1, 1, 1, 1, 1, 1, 1, 1, 1, 1, 1, 1, 1, 1, 1, 1, 1);
+            CASES.same(x.assign(6, 2), 1);
+            CASES.same("the plan", Due.planOf(x), "0000002");
+        });
         CASES.test("promise 19: a time set from 0", () -> {
             UnlikeUnion x = Due.withJobs(5, 0, 0);
             x.setTime(0, 1, 1);
@@ -152,6 +157,11 @@ final class BoundaryOwnPlanTest {
         none("seven jobs that can be done on one machine", "",
             0, 50, 0, 0, 50, 0, 0, 50, 0, 0, 50, 0, 0, 50, 0, 0, 50, 0, 0, 50, 0);
         improved("the greatest load is less by 1", "0", 5, "1", 6, 5, 0);
+        improved("a move to a machine with the time 1", "0", 1, "1", 2, 1, 0);
+        improved("a swap to machines with the time 1", "01", 1, "10", 2, 1, 0, 1, 2, 0);
+        improved("the greatest load less by 1, the second one more", "00", 5, "10", 1, 5, 0, 5, 0, 0);
+        improved("the same greatest load, the second one less, the least more", "011", 9, "021",
+            9, 0, 0, 0, 3, 3, 0, 3, 0);
         improved("the same greatest load, the second one less by 1", "01", 9, "02", 9, 0, 0, 0, 5, 4);
         improved("the same two greatest loads, the least less by 1", "012", 9, "021", 9, 0, 0, 0, 9, 5, 0, 9, 6);
         none("the same three loads on other machines", "01", 9, 0, 0, 0, 5, 5);

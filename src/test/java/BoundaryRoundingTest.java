@@ -57,6 +57,11 @@ final class BoundaryRoundingTest {
         length("one job of the time 1", 1, 1, 1, 1);
         length("one job of the time 50", 50, 50, 50, 50);
         length("one below twice the bound", 99, NEARLY_TWICE);
+        CASES.test("promise 17: at most twice the bound", () -> {
+            UnlikeUnion x = Due.withJobs(NEARLY_TWICE);
+            CASES.same("bound()", x.bound(), 50);
+            CASES.same("more than twice", x.roundedLength() > 2 * x.bound(), false);
+        });
         CASES.test("promise 17: seven jobs of 50", () -> CASES.same(Cases.sevenAlike(50, 50, 50).roundedLength(), 150));
         CASES.test("promise 17: seven jobs of 50 on one machine", () -> CASES.same(Cases.sevenAlike(50, 0, 0).roundedLength(), 350));
         CASES.test("promise 17: seven jobs, three of them divided", () -> CASES.same(Cases.seven().roundedLength(), 7));

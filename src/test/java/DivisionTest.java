@@ -21,6 +21,8 @@ final class DivisionTest {
             0, 0, 50, 0, 0, 50, 0, 0, 50, 0, 0, 50, 0, 0, 50, 0, 0, 50, 0, 0, 50);
         division("great denominators", 17, "2867/184", "0 0 1, 133/222 0 89/222, 0 0 1, 0 91/148 57/148, "
             + "625/1332 707/1332 0, 0 1 0, 1 0 0", 20, 20, 4, 17, 22, 9, 21, 13, 4, 18, 15, 14, 6, 9, 18, 7, 3, 9, 4, 13, 21);
+        // On the way to the least number the job 0 leaves the machine 0 and comes back to it.
+        division("a share that comes back", 2, "15/8", "0 1 0, 1 0 0, 0 0 1", 3, 2, 0, 2, 1, 2, 3, 3, 2);
         changes();
         DUE.close();
     }

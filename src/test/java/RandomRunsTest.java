@@ -6,7 +6,7 @@ final class RandomRunsTest {
 
     public static void main(String[] args) {
         Due due = new Due("RandomRunsTest");
-        int runs = args.length > 0 ? Integer.parseInt(args[0]) : 300;
+        int runs = args.length > 0 ? Integer.parseInt(args[0]) : 4000;
         long seed = args.length > 1 ? Long.parseLong(args[1]) : 20261119L;
         Random random = new Random(seed);
         for (int run = 0; run < runs; run++) {
