@@ -23,8 +23,19 @@ final class DivisionTest {
             + "625/1332 707/1332 0, 0 1 0, 1 0 0", 20, 20, 4, 17, 22, 9, 21, 13, 4, 18, 15, 14, 6, 9, 18, 7, 3, 9, 4, 13, 21);
         // On the way to the least number the job 0 leaves the machine 0 and comes back to it.
         division("a share that comes back", 2, "15/8", "0 1 0, 1 0 0, 0 0 1", 3, 2, 0, 2, 1, 2, 3, 3, 2);
+        stepsOfTheTableau();
         changes();
         DUE.close();
+    }
+
+    /** Small jobs, each of which failed for a broken step of the tableau that the other ones did not meet. */
+    private static void stepsOfTheTableau() {
+        division("no row leaves whose cell is below 0", 1, "1/1", "0 1 0, 1 0 0, 0 0 1", 1, 1, 0, 1, 0, 0, 1, 1, 1);
+        division("the load of the machine 0 below the greatest one", 1, "4/5", "0 0 1, 1 0 0", 0, 2, 1, 1, 2, 1);
+        division("the greatest load is not the first one", 2, "2/1", "0 1 0, 1 0 0", 0, 2, 0, 1, 2, 0);
+        division("of equal rows the excess leaves", 1, "1/1", "1 0 0, 0 1 0, 0 0 1", 1, 0, 0, 0, 1, 1, 0, 1, 1);
+        division("a factor of -1", 1, "3/4", "0 1 0, 1 0 0", 3, 1, 2, 1, 1, 1);
+        division("a factor of -1 among three jobs", 2, "7/5", "1 0 0, 0 1 0, 0 0 1", 2, 0, 2, 1, 2, 2, 0, 1, 1);
     }
 
     private static void division(String name, int bound, String least, String shares, int... times) {

@@ -7,7 +7,7 @@ import java.util.Set;
 import java.util.TreeSet;
 import java.util.stream.Collectors;
 
-/** The public face of the document, and nothing beside it that is not private. */
+/** The public face of the document, nothing beside it that is not private, and no class larger than the rules let it be. */
 final class FaceTest {
     private static final Set<String> FACE = new TreeSet<>(Arrays.asList(
         "int addJob(int, int, int) throws IllegalArgumentException, IllegalStateException",
@@ -57,6 +57,7 @@ final class FaceTest {
             due.same(field.getName() + " in all", Modifier.isPublic(field.getModifiers()), constant);
         }
         lookAtHidden(due, face, names);
+        due.same("twelve classes at most", face.getDeclaredClasses().length < 12, true);
         for (Class<?> inside : face.getDeclaredClasses()) {
             int kind = inside.getModifiers();
             due.same(inside.getName(), Modifier.isStatic(kind) && !Modifier.isPublic(kind) && !Modifier.isProtected(kind), true);
@@ -81,10 +82,18 @@ final class FaceTest {
                 due.same(where.getName() + "." + method.getName() + " bears a public name", names.contains(method.getName()), false);
             }
         }
+        int fields = 0;
         for (Field field : where.getDeclaredFields()) {
             if (Modifier.isStatic(field.getModifiers())) {
                 due.same(where.getName() + "." + field.getName() + " is final", Modifier.isFinal(field.getModifiers()), true);
+                due.same(where.getName() + "." + field.getName() + " is an int", field.getType(), int.class);
+            } else {
+                fields++;
             }
+        }
+        due.same(where.getName() + " has twenty fields at most", fields <= 20, true);
+        for (Method method : where.getDeclaredMethods()) {
+            due.same(method + " has seven parameters at most", method.getParameterCount() <= 7, true);
         }
     }
 }
